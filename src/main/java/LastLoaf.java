@@ -84,14 +84,14 @@ public final class LastLoaf {
     private final Tape tape = new Tape();
     private final Village now = new Village();
     private final Village spare = new Village();
-    private final Law law = new Law();
+    private final Law lawNow = new Law();
     private final Law draft = new Law();
     private final Reader reader = new Reader(tape, spare, draft);
     private final Village imageVillage = new Village();
     private final Law imageLaw = new Law();
     private final Past past = new Past();
     private final Poll poll = new Poll();
-    private final Baker baker = new Baker(poll, law);
+    private final Baker baker = new Baker(poll, lawNow);
     private final Turns turns = new Turns();
     private final SecretBallots secrets = new SecretBallots();
     private final Friends friends = new Friends();
@@ -143,9 +143,9 @@ public final class LastLoaf {
         if (!right) {
             throw new IllegalArgumentException("the text of the law is wrong");
         }
-        law.become(draft);
+        lawNow.become(draft);
         past.forget();
-        return law.lines;
+        return lawNow.lines;
     }
 
     public int fault() {
@@ -181,7 +181,7 @@ public final class LastLoaf {
     public int favour(int person, int other) throws IndexOutOfBoundsException {
         needPerson(person);
         needPerson(other);
-        return law.favourOf(now, person, other);
+        return lawNow.favourOf(now, person, other);
     }
 
     public int grist(int season) throws IndexOutOfBoundsException {
@@ -309,7 +309,7 @@ public final class LastLoaf {
     public int next(int n) throws IllegalArgumentException {
         needNumber(n, 0, AHEAD_MOST);
         lookAhead(n);
-        poll.hold(spare, law);
+        poll.hold(spare, lawNow);
         return poll.winnerBy(spare.way);
     }
 
@@ -633,7 +633,7 @@ public final class LastLoaf {
 
     public void image() {
         imageVillage.become(now);
-        imageLaw.become(law);
+        imageLaw.become(lawNow);
         imageKept = true;
     }
 
@@ -642,7 +642,7 @@ public final class LastLoaf {
             return false;
         }
         now.become(imageVillage);
-        law.become(imageLaw);
+        lawNow.become(imageLaw);
         past.forget();
         return true;
     }
@@ -651,7 +651,7 @@ public final class LastLoaf {
         switch (what) {
             case 0: return now.people;
             case 1: return now.texts;
-            case 2: return law.lines;
+            case 2: return lawNow.lines;
             case 3: return now.week;
             case 4: return now.flour;
             case 5: return now.way;
@@ -737,7 +737,7 @@ public final class LastLoaf {
     }
 
     private Poll pollNow() {
-        poll.hold(now, law);
+        poll.hold(now, lawNow);
         return poll;
     }
 
@@ -1964,7 +1964,7 @@ public final class LastLoaf {
             search(0);
         }
 
-        void search(int depth) {
+        private void search(int depth) {
             // Nobody leaves the bench, so a row that is no better yet cannot become better.
             if (Integer.bitCount(benches[depth]) >= fewest) {
                 return;
