@@ -23,7 +23,7 @@ public final class AgainstModel {
     private AgainstModel(long seed) { random = new Random(seed); }
 
     public static void main(String[] args) throws Exception {
-        int runs = args.length > 0 ? Integer.parseInt(args[0]) : 400;
+        int runs = args.length > 0 ? Integer.parseInt(args[0]) : 1500;
         long first = args.length > 1 ? Long.parseLong(args[1]) : 1;
         for (Method m : LastLoaf.class.getDeclaredMethods()) if (Modifier.isPublic(m.getModifiers())) OWN.add(m);
         OWN.sort(Comparator.comparing(Method::getName));
@@ -51,8 +51,9 @@ public final class AgainstModel {
             else if (dice == 1) law();
             else if (dice < 5) ballots();
             else if (dice < 10) call("weeks", 1 + (random.nextInt(4) == 0 ? random.nextInt(60) : random.nextInt(4)));
+            else if (dice < 28) hard();
             else any();
-            if (!wrong && dice < 20) compareState();
+            if (!wrong && dice < 12) compareState();
         }
         if (!wrong) compareState();
     }
@@ -64,6 +65,28 @@ public final class AgainstModel {
         for (int i = 0; i < args.length; i++) args[i] = types[i] == boolean.class ? (Object) random.nextBoolean() : (Object) number();
         if (OWN.get(m).getName().equals("ahead") && random.nextInt(4) != 0) args[1] = random.nextInt(61);
         call(m, args);
+    }
+
+    /** The calls that are hardest to answer, with numbers that can be. */
+    private void hard() throws Exception {
+        int person = random.nextInt(Math.max(1, due.count(0)));
+        int n = random.nextInt(3) == 0 ? random.nextInt(61) : random.nextInt(9);
+        switch (random.nextInt(14)) {
+            case 0: call("winner", random.nextInt(6)); break;
+            case 1: call("hungry", random.nextInt(6), n); break;
+            case 2: call("kindest", n); break;
+            case 3: call("next", n); break;
+            case 4: call("woo", person); break;
+            case 5: call("orders"); call("order", person, random.nextInt(6)); break;
+            case 6: int turns = random.nextInt(due.count(0) > 4 ? 4 : 6); for (int k = -1; k < turns; k++) call("rota", turns, k); break;
+            case 7: call("lasts"); break;
+            case 8: call("mill", Math.max(1, n)); break;
+            case 9: call("starves", false); call("starves", true); break;
+            case 10: call("couples", random.nextInt(due.count(0) + 1) - 1); call("camps"); break;
+            case 11: for (int k = -1; k < 6; k++) call("table", k); break;
+            case 12: call("span", n, random.nextBoolean()); call("trial", n, random.nextBoolean()); break;
+            default: call("swings", person); call("smallest"); call("kingmaker"); break;
+        }
     }
 
     private int number() {

@@ -13,7 +13,7 @@ import java.util.function.IntPredicate;
 final class Model {
     static final int NONE = -1;
 
-    static final class Person implements Cloneable {
+    static final class Person {
         int hunger, party = 2, skin, had, run;
         boolean stands, benched;
         int[] likes = {5, 5, 5, 5, 5, 5};

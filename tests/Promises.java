@@ -197,23 +197,27 @@ public final class Promises {
         is(64, "WAY", x.count(5), 5);
         is(64, "SPEECH", x.count(6), 100);
         is(64, "WEEK", x.count(3), 999);
+        tell(x, "flour 0;way 0;speech 0;week 0;grist spring 0;likes 1 0 0");
+        is(4, "village() of 0", x.village(), 2);
+        for (int what = 3; what < 7; what++) is(4, "count(" + what + ") of 0", x.count(what), 0);
+        is(4, "grist(0) of 0", x.grist(0), 0);
+        is(4, "likes(1, 0) of 0", x.likes(1, 0), 0);
         tell(x, "");
-        is(4, "village() of nothing", x.village(), 2);
+        is(4, "village() of nothing", x.village(), 3);
         tell(x, "   ");
-        is(4, "village() of blanks", x.village(), 3);
+        is(4, "village() of blanks", x.village(), 4);
         tell(x, "person hunger 1;person hunger 1;person hunger 1;person hunger 1");
-        is(4, "village() of four more", x.village(), 4);
+        is(4, "village() of four more", x.village(), 5);
         is(4, "PEOPLE", x.count(0), 6);
         is(6, "fault() of a person too many", villageFault(x, "flour 1; person hunger 1"), 9);
-        is(4, "texts", x.count(1), 4);
-        for (int i = 5; i <= 12; i++) is(4, "village() no. " + i, x.village(), i);
+        is(4, "texts", x.count(1), 5);
+        for (int i = 6; i <= 12; i++) is(4, "village() no. " + i, x.village(), i);
         tell(x, "flour 5");
         fails(4, "village() no. 13", x, UnsupportedOperationException.class, () -> x.village());
         is(4, "the tape is used up", x.feed(0, 0, 0, 0, 0), 20);
         x.end(0);
         is(6, "a wrong text is told first", villageFault(x, "flour"), 5);
-        x.undo();
-        is(4, "FLOUR", x.count(4), 999);
+        is(4, "FLOUR", x.count(4), 0);
     }
 
     private static void villageFaults() {
@@ -221,10 +225,10 @@ public final class Promises {
         String[] texts = {"x", "Person hunger 1", "personhunger 1", "person 1", "person hunger", "person hunger x",
             "person hunger 0001", "person hunger 10", "person hunger 1 party", "person hunger 1 party 0",
             "person hunger 1 skin", "person hunger 1 skin 10", "person hunger 1 stands skin 1", "person hunger 1 skin 1 party crust",
-            "person hunger 1 person", "likes", "likes 2 0 1", "likes 0 2 1", "likes 0 0 1", "likes 0 1 10", "likes 0 1", "likes 0 1 9 9",
+            "person hunger 1 person", "wayz 1", "grist", "person hunger 1 party crustz", "likes", "likes 2 0 1", "likes 0 2 1", "likes 0 0 1", "likes 0 1 10", "likes 0 1", "likes 0 1 9 9",
             "flour 1000", "flour -1", "flour 1,flour 2", "grist 0 1", "grist fall 1", "grist winter 100", "way 6", "speech 101",
             "week 1000", "flour 1;", "flour 1;  ", ";flour 1", "flour 1;;flour 1", "person hunger 1;likes 0 3 1", "flour 1" + (char) 233, "flour 1\n"};
-        int[] faults = {0, 0, 0, 7, 13, 14, 14, 14, 21, 22, 20, 21, 23, 23, 16, 5, 6, 8, 8, 10, 9, 12,
+        int[] faults = {0, 0, 0, 7, 13, 14, 14, 14, 21, 22, 20, 21, 23, 23, 16, 0, 5, 22, 5, 6, 8, 8, 10, 9, 12,
             6, 6, 7, 6, 6, 13, 4, 7, 5, 8, 10, 0, 8, 24, 7, 7};
         for (int i = 0; i < texts.length; i++) is(6, "fault() of " + texts[i], villageFault(x, texts[i]), faults[i]);
         is(4, "PEOPLE of wrong texts", x.count(0), 2);
@@ -302,6 +306,15 @@ public final class Promises {
             "(1<0 or 1<2) and 1<0", "1<0 or 1<2 and 1<0", "not (1<0 or 1<2)", "not 1<2 or 1<0"};
         for (String c : hold) is(9, "sway 10 if " + c, swayed(c), 10);
         for (String c : fall) is(9, "sway 10 if " + c, swayed(c), 0);
+        String deep = "other+1<voter+3";
+        for (int i = 0; i < 6; i++) deep = "1<0 or same and (" + deep + ")";
+        is(9, "sway 10 if " + deep, swayed("1<0 or same and " + deep), 10);
+        String flat = deep.replace("voter+3", "voter+2");
+        is(9, "sway 10 if " + flat, swayed("1<0 or same and " + flat), 0);
+        StringBuilder sum = new StringBuilder("0");
+        while (sum.length() < 383) sum.append("+0");
+        is(9, "sway 10 if a long sum", swayed(sum + "+5>4"), 10);
+        is(9, "sway 10 if a long sum falls", swayed(sum + "+5>5"), 0);
         LastLoaf x = of(SMALL, "sway 3 if likes>8;spite 4 if voter<1;abstain if hunger>5;sway 1 if skin>2");
         int[][] due = {{8, 1, 1}, {6, 13, 6}, {5, 8, 12}};
         for (int p = 0; p < 3; p++) for (int q = 0; q < 3; q++) is(9, "favour(" + p + ", " + q + ")", x.favour(p, q), due[p][q]);
@@ -552,6 +565,7 @@ public final class Promises {
                 + "likes 3 1 9;likes 3 2 8;likes 4 0 9;likes 4 2 8;likes 5 1 8;likes 5 2 9", "abstain if standing");
         int[] due = {0, 2, 2, 2, 1, 2};
         for (int way = 0; way < 6; way++) is(19, "winner(" + way + ")", x.winner(way), due[way]);
+        is(19, "winner(5) of two", of(SMALL).winner(5), 1);
         is(22, "master()", x.master(), 2);
         is(22, "master() of one", of("person hunger 1 stands").master(), 0);
         is(22, "master() of none", of("person hunger 1").master(), NONE);
@@ -639,6 +653,11 @@ public final class Promises {
         is(26, "woo(0) without voters", y.woo(0), 0);
         LastLoaf z = of("person hunger 1 stands;person hunger 1 stands;person hunger 1;person hunger 1;person hunger 1;person hunger 1");
         is(26, "woo(1) of five for 0", z.woo(1), 1 | 4 | 8);
+        // 0 and 1 vote for 2, 3 for 1, 4 and 5 for 0: one of the latter is as good to 1 as both of the first
+        LastLoaf w = of("person hunger 1 stands;person hunger 1 stands;person hunger 1 stands;person hunger 1;person hunger 1;person hunger 1",
+                "abstain if voter>1 and voter<3;sway 20 if voter<2 and other>1;sway 20 if voter>2 and voter<4 and other>0 and other<2;"
+                + "sway 20 if voter>3 and other<1");
+        is(26, "woo(1): the fewest, not the least", w.woo(1), 16);
         is(7, "NEEDED of five for 0", z.person(1, 11), 3);
     }
 
@@ -651,6 +670,9 @@ public final class Promises {
         is(28, "order(0, -1)", x.order(0, -1), NONE);
         is(28, "order(3, 0) of no runner", x.order(3, 0), NONE);
         fails(28, "order(6, 0)", x, PLACE, () -> x.order(6, 0));
+        x.like(4, 1, 0);
+        is(27, "orders() when 1 beats nobody any more", x.orders(), 4);
+        is(28, "order(1, 0) when 1 beats nobody any more", x.order(1, 0), NONE);
         LastLoaf y = of(RING, "abstain");
         is(27, "orders() without voters", y.orders(), 7);
         is(28, "order(1, 0) without voters", y.order(1, 0), 1);
@@ -687,6 +709,14 @@ public final class Promises {
         LastLoaf z = of("person hunger 8 stands;person hunger 8;flour 1;grist spring 0");
         is(29, "rota(1, NONE): flour is 1's ahead", z.rota(1, NONE), 1);
         is(29, "rota(1, 0) without flour", z.rota(1, 0), NONE);
+        LastLoaf w = of("person hunger 8;person hunger 8;person hunger 7 stands;flour 1;grist spring 0;grist summer 1");
+        is(29, "rota(1, NONE): flour for one of two", w.rota(1, NONE), 1);
+        is(29, "rota(2, NONE): 0 eats and none is left", w.rota(2, NONE), 2);
+        is(29, "rota(2, 1) without flour", w.rota(2, 1), NONE);
+        LastLoaf v = of("person hunger 8 stands;person hunger 7 stands;flour 1;grist spring 0;grist summer 0");
+        is(29, "rota(2, NONE): a loaf is gone when it is eaten", v.rota(2, NONE), 1);
+        is(29, "rota(2, 0)", v.rota(2, 0), NONE);
+        is(29, "rota(2, 1)", v.rota(2, 1), 1);
     }
 
     private static void flour() {
@@ -694,6 +724,20 @@ public final class Promises {
         is(30, "lasts()", x.lasts(), 2);
         is(30, "lasts() now", new LastLoaf().lasts(), 0);
         is(30, "lasts() of nobody", of("flour 1").lasts(), NONE);
+        String none = ";grist spring 0;grist summer 0;grist autumn 0;grist winter 0";
+        is(30, "lasts() to the last week", of("person hunger 0;flour 60" + none).lasts(), 60);
+        is(30, "lasts() past the last week", of("person hunger 0;flour 61" + none).lasts(), NONE);
+        is(32, "starves(false) in the last week", of("person hunger 0;flour 51" + none).starves(false), 60);
+        is(32, "starves(true) in the last week", of("person hunger 0;flour 51" + none).starves(true), 0);
+        is(32, "starves(false) past the last week", of("person hunger 0;flour 52" + none).starves(false), NONE);
+        is(31, "mill(1) of a loaf for each", of("person hunger 8;person hunger 8;person hunger 8;person hunger 8;person hunger 8;person hunger 8" + none).mill(1), 6);
+        // A speech of 0 in the first week would turn the vote of 2 from 1, who is fed else.
+        LastLoaf talk = of("person hunger 2 stands;person hunger 7 stands;person hunger 0;likes 2 1 6;speech 100;flour 9;grist summer 0");
+        is(56, "trial(7, false): 0 speaks", talk.trial(7, false) == 1, false);
+        is(32, "starves(false) without speeches", talk.starves(false), 7);
+        is(32, "starves(true) without speeches", talk.starves(true), 0);
+        is(31, "mill(6) without speeches", talk.mill(6), 0);
+        is(31, "mill(7) without speeches", talk.mill(7), NONE);
         is(32, "starves(false)", x.starves(false), 7);
         is(32, "starves(true)", x.starves(true), 0);
         LastLoaf y = of("person hunger 8;person hunger 8;person hunger 2 stands;grist spring 0;grist summer 0;grist autumn 0;grist winter 0;flour 1");
@@ -978,6 +1022,31 @@ public final class Promises {
         is(57, "span(2, false)", y.span(2, false), least);
         is(57, "span(2, true)", y.span(2, true), most);
         is(57, "draws are of use", least < most, true);
+        spans();
+    }
+
+    /** In some of these villages the sixth seed alone, or the seventh, goes further than those before. */
+    private static void spans() {
+        int sixth = 0, seventh = 0;
+        for (int hunger = 3; hunger < 9; hunger++) {
+            for (int n = 0; n < 20; n++) {
+                LastLoaf x = of("person hunger " + hunger + " stands;person hunger 6 stands;person hunger 5 stands;person hunger 0;person hunger 0;person hunger 0;"
+                        + "speech 70;likes 3 1 6;likes 4 2 6", "spite 3 if run>0;sway 1 if hunger>4");
+                int least = 9, most = 0;
+                for (int s = 1; s <= 7; s++) {
+                    x.seed(s);
+                    int benched = Integer.bitCount(x.trial(n, false));
+                    if (s == 6 && (benched < least || benched > most)) sixth++;
+                    if (s == 7 && (benched < least || benched > most)) seventh++;
+                    if (s < 7) least = Math.min(least, benched);
+                    if (s < 7) most = Math.max(most, benched);
+                }
+                is(57, "span(" + n + ", false)", x.span(n, false), least);
+                is(57, "span(" + n + ", true)", x.span(n, true), most);
+            }
+        }
+        is(57, "there are villages for the sixth seed", sixth > 0, true);
+        is(57, "there are villages for the seventh seed", seventh > 0, true);
     }
 
     private static void log() {
