@@ -83,6 +83,7 @@ public final class Boundaries {
         numbersRefused();
         peopleRefused();
         firstTold();
+        questions();
         nobody();
         counts();
         for (int p = 1; p <= 64; p++) if (!seen.contains(p)) fail("promise " + p + " has no sentence here");
@@ -173,8 +174,8 @@ public final class Boundaries {
         return b.append(seed).toString();
     }
 
-    private static Object answer(LastLoaf x, String name, int... args) {
-        for (Method m : LastLoaf.class.getMethods()) {
+    private static Object answer(Object x, String name, int... args) {
+        for (Method m : x.getClass().getDeclaredMethods()) {
             if (!m.getName().equals(name) || m.getParameterCount() != args.length) continue;
             Object[] given = new Object[args.length];
             for (int i = 0; i < args.length; i++) given[i] = m.getParameterTypes()[i] == boolean.class ? (Object) (args[i] != 0) : (Object) args[i];
@@ -588,6 +589,31 @@ public final class Boundaries {
         LastLoaf w = of("person hunger 1 skin 8 stands;" + ONE, "sway 1 if skin>7;sway 10 if standing");
         due(w, 16, "favour", 0, 1);
         due(w, 5, "favour", 1, 0);
+        sentence(9, "other, hunger, had, run: of the one who STANDS;");
+        LastLoaf eaten = baked(of("person hunger 3 skin 1 stands;person hunger 6 skin 2;person hunger 0 skin 3 stands", "spite 9 if had>2"), 4);
+        // 0 had it three times, then 2; 0 and 2 are of HUNGER 1 and 0
+        String[] parts = {"voter", "other", "likes", "hunger", "had", "run", "skin"};
+        int[][] known = {{2, 0, 5, 1, 3, 0, 3}, {1, 2, 5, 0, 1, 1, 2}};
+        for (int i = 0; i < parts.length; i++) {
+            for (int row = 0; row < 2; row++) {
+                int n = known[row][i];
+                withLaw(eaten, "sway 7 if " + parts[i] + "<" + (n + 1) + " and " + parts[i] + "+1>" + n);
+                due(eaten, 12, "favour", known[row][0], known[row][1]);
+                withLaw(eaten, "sway 7 if " + parts[i] + "<" + n + ";sway 3 if " + parts[i] + ">" + n);
+                due(eaten, 5, "favour", known[row][0], known[row][1]);
+            }
+        }
+        sentence(9, "C: ALL { or ALL }; ALL: ATOM { and ATOM }; ATOM: not ATOM | ( C )");
+        String[] signs = {"0<1", "1<0"};
+        for (int bits = 0; bits < 8; bits++) {
+            boolean a = (bits & 1) == 0, b = (bits & 2) == 0, c = (bits & 4) == 0;
+            String x1 = signs[bits & 1], y1 = signs[bits >> 1 & 1], z1 = signs[bits >> 2];
+            boolean[] hold = {a && b || c, a || b && c, a && b && c, a || b || c, !a && b || c, !(a && b || c), (a || b) && c, a && (b || c), a || !(b || c), !a || !b && !c};
+            String[] texts = {x1 + " and " + y1 + " or " + z1, x1 + " or " + y1 + " and " + z1, x1 + " and " + y1 + " and " + z1, x1 + " or " + y1 + " or " + z1,
+                "not " + x1 + " and " + y1 + " or " + z1, "not (" + x1 + " and " + y1 + " or " + z1 + ")", "(" + x1 + " or " + y1 + ") and " + z1,
+                x1 + " and (" + y1 + " or " + z1 + ")", x1 + " or not (" + y1 + " or " + z1 + ")", "not " + x1 + " or not " + y1 + " and not " + z1};
+            for (int i = 0; i < texts.length; i++) due(of(ONE + ";" + ONE, "sway 9 if " + texts[i]), hold[i] ? 14 : 5, "favour", 0, 1);
+        }
         sentence(9, "(standing or not; itself, too)");
         due(of(ONE + ";" + ONE, "sway 3 if other>0"), 8, "favour", 0, 1);
         due(of(ONE + ";" + ONE, "sway 3 if other>0"), 12, "favour", 1, 1);
@@ -599,6 +625,9 @@ public final class Boundaries {
         due(rightVillage("person hunger 1skin 2stands;flour 3"), 2, "person", 2, 2);
         wrongVillage("flours 5", 0);
         wrongVillage("flou 5", 0);
+        wrongVillage("flourz 5", 0);
+        wrongVillage("floura 5", 0);
+        wrongVillage("glour 5", 0);
         wrongVillage("flour{5", 5);
         wrongVillage("flour`5", 5);
         wrongVillage("Flour 5", 0);
@@ -840,6 +869,20 @@ public final class Boundaries {
         four.like(3, 1, 9);
         four.like(3, 0, 8);
         due(four, 1, "winner", 5);
+        // The one voter has itself last
+        due(of(times(3, STANDS), "abstain if voter>0;spite 20 if other<1"), 1, "winner", 1);
+        due(of(times(3, STANDS), "abstain if voter<2;spite 20 if other<1"), 1, "winner", 1);
+        sentence(19, "The WINNER by a WAY now; NONE.");
+        String[] votes = {"likes 3 1 9;likes 4 1 9;likes 5 0 9", "likes 3 0 1;likes 4 1 1;likes 5 2 1", "likes 3 2 9;likes 3 1 8;likes 4 1 9;likes 4 2 8;likes 5 0 9;likes 5 2 8"};
+        for (String told : votes) {
+            int[] alone = new int[6];
+            for (int way = 0; way < 6; way++) alone[way] = voted(told).winner(way);
+            LastLoaf asked = voted(told);
+            for (int i = 0; i < 36; i++) {
+                due(asked, alone[i / 6], "winner", i / 6);
+                due(asked, alone[i % 6], "winner", i % 6);
+            }
+        }
         sentence(19, "IllegalArgumentException: the WAY is none.");
         for (int way : new int[] {-1, 6, MOST, LEAST}) refused(() -> of(STANDS), ARGUMENT, "winner", way);
     }
@@ -1219,6 +1262,10 @@ public final class Boundaries {
         due(of(STANDS + ";" + STANDS, "abstain if voter>0"), 1, "woo", 1);
         sentence(26, "WON OVER: the first such set of VOTERS (the least as bits of the fewest).");
         LastLoaf tie = of(STANDS + ";" + STANDS + ";" + ONE + ";" + ONE + ";" + ONE + ";likes 4 1 9", "abstain if standing");
+        // 0 and 1 for 2, 3 for 1, 4 and 5 for 0: one of the latter does for 1 what two of the first do
+        LastLoaf fewest = of(times(3, STANDS) + ";" + times(3, ONE), "abstain if voter>1 and voter<3;sway 20 if voter<2 and other>1;"
+                + "sway 20 if voter>2 and voter<4 and other>0 and other<2;sway 20 if voter>3 and other<1");
+        due(fewest, 16, "woo", 1);
         // 2 and 3 for 0, 4 for 1: one of 2, 3
         due(tie, 4, "woo", 1);
         due(tie, 0, "woo", 0);
@@ -1286,6 +1333,29 @@ public final class Boundaries {
         due(of("person hunger 4 stands"), NONE, "rota", 5, 3);
         due(of("person hunger 4 stands"), NONE, "rota", 4, 3);
         due(of("person hunger 4 stands"), 0, "rota", 5, NONE);
+        due(baked(of(STARVING), 1), 2, "rota", 0, NONE);
+        due(baked(of(STARVING), 9), 3, "rota", 0, NONE);
+        // Flour comes in summer alone, when 0 would starve
+        LastLoaf seasons = of("person hunger 7 stands;grist spring 0;grist summer 1;grist autumn 0;grist winter 0");
+        due(seasons, 0, "rota", 5, NONE);
+        int[] fed = {NONE, 0, NONE, NONE, NONE};
+        for (int k = 0; k < 5; k++) due(seasons, fed[k], "rota", 5, k);
+        // WEEK goes no further than 9999, of winter
+        LastLoaf late = baked(of("person hunger 4 stands;grist winter 0;grist autumn 0;week 999"), 8999);
+        while (late.count(4) > 0) late.weeks(1);
+        due(late, 9999, "count", 3);
+        int hunger = late.person(0, 0);
+        due(late, hunger + 5 >= 9 ? 1 : 0, "rota", 5, NONE);
+        for (int k = 0; k < 5; k++) due(late, NONE, "rota", 5, k);
+        // What is not given is there in the next week, and what was eaten is not
+        LastLoaf kept = of("person hunger 8 stands;person hunger 7 stands;person hunger 6 stands;flour 2" + NO_GRIST);
+        due(kept, 1, "rota", 3, NONE);
+        int[] eaten = {NONE, 1, 2};
+        for (int k = 0; k < 3; k++) due(kept, eaten[k], "rota", 3, k);
+        LastLoaf first = of("person hunger 8;person hunger 8 stands;person hunger 0;flour 2" + NO_GRIST);
+        due(first, 1, "rota", 1, NONE);
+        due(first, NONE, "rota", 1, 0);
+        due(of("person hunger 8;person hunger 8 stands;person hunger 0;flour 3" + NO_GRIST), 1, "rota", 1, 0);
         sentence(29, "how many are BENCHED (k NONE), or whom the K-TH WEEK (from 0 on) feeds; NONE.");
         due(of(times(6, "person hunger 9") + NO_GRIST), 6, "rota", 1, NONE);
         due(new LastLoaf(), 0, "rota", 5, NONE);
@@ -1372,6 +1442,17 @@ public final class Boundaries {
         told(choosing(6, 6, 6, 6, 6, 6), 9999, "ballots", rows(0, 0));
         told(choosing(6, 6, 6, 6, 6, 6), 1, "ballots", rows(0, 6));
         told(choosing(6, 6, 6, 6, 6, 6), 30, "ballots", rows(5, 5));
+        told(choosing(6, 6, 6, 6, 6, 6), 90, "ballots", rows(0, 2, 1, 2, 2, 2, 3, 0, 4, 0, 5, 0));
+        told(choosing(6, 6, 6, 6, 6, 6), 720, "ballots", rows(0, 1, 1, 1, 2, 1, 3, 1, 4, 1, 5, 1));
+        told(choosing(6, 6, 6, 6, 6, 6), 720, "ballots", rows(0, 1, 1, 1, 2, 1, 3, 1, 4, 1));
+        told(choosing(6, 6, 6, 6, 6, 6), 60, "ballots", rows(0, 3, 1, 2, 2, 1));
+        LastLoaf middle = of(times(5, STANDS), "abstain if voter>1 and voter<3");
+        // Four voters of five choices each: two for 0, one for 4, one for another one
+        told(middle, 12 * 3, "ballots", rows(0, 2, 4, 1));
+        told(middle, 0, "ballots", rows(0, 2, 4, 3));
+        told(middle, 6, "ballots", rows(0, 2, 4, 2));
+        told(middle, NONE, "sure", rows(0, 4), 2);
+        told(middle, 0, "sure", rows(0, 4), 3);
         sentence(33, "a RUNNER and how many votes it had (0 to 6);");
         told(choosing(6, 6, 6, 6, 6, 6), 1, "ballots", rows(5, 6));
         told(choosing(6, 6, 6, 6, 6, 6), 0, "ballots", rows(5, 6, 4, 1));
@@ -1470,6 +1551,10 @@ public final class Boundaries {
         due(of(times(3, ONE)), 3, "smallest");
         due(of(times(6, ONE)), 15, "smallest");
         due(x, 3, "smallest");
+        // 1, 1, 1, 2, 2: the last two alone
+        LastLoaf late = of(times(3, ONE) + ";" + STANDS + ";" + STANDS + ";flour 9", "spite 9 if had>0");
+        late.weeks(2);
+        due(late, 24, "smallest");
         sentence(39, "BLOC of a PARTY (0 to 2): what its PEOPLE not BENCHED count together.");
         due(x, 5, "bloc", 2);
         due(x, 0, "bloc", 0);
@@ -1502,6 +1587,10 @@ public final class Boundaries {
         LastLoaf none = of(ONE + ";" + ONE + ";likes 0 1 0;likes 1 0 0");
         due(none, NONE, "couples", 0);
         due(none, NONE, "couples", 1);
+        LastLoaf mixed = of(times(5, ONE) + ";likes 0 3 9;likes 3 0 9;likes 1 4 9;likes 4 1 8;likes 2 3 8");
+        int[] pairs = {3, 4, NONE, 0, 1};
+        for (int p = 0; p < 5; p++) due(mixed, pairs[p], "couples", p);
+        due(mixed, 35, "couples", NONE);
         due(baked(of(STARVING), 1), NONE, "couples", 0);
         due(baked(of(STARVING), 1), 2, "couples", 1);
         for (int p : new int[] {-2, 3, MOST, LEAST}) refused(() -> of(STARVING), PLACE, "couples", p);
@@ -1513,6 +1602,7 @@ public final class Boundaries {
         due(of(times(6, ONE)), 2, "camps");
         // 0 is alone, as nobody likes it
         due(of(times(3, ONE) + ";likes 1 0 0;likes 2 0 0"), 6, "camps");
+        due(of(times(4, ONE) + ";likes 0 1 0;likes 1 0 0;likes 0 2 0;likes 2 0 0;likes 3 1 0;likes 1 3 0;likes 3 2 0;likes 2 3 0"), 6, "camps");
         due(of(times(6, ONE) + ";likes 5 0 0;likes 5 1 0;likes 5 2 0;likes 5 3 0;likes 5 4 0"), 32, "camps");
     }
 
@@ -1753,6 +1843,25 @@ public final class Boundaries {
             due(y, most, "span", n, 1);
         }
         due(y, -5, "seed", 1);
+        // In the one village the sixth seed goes further than those before, in the other one the seventh would
+        int[] further = new int[9];
+        for (int hunger = 3; hunger < 9; hunger++) {
+            for (int n = 0; n < 20; n++) {
+                LastLoaf x = of("person hunger " + hunger + " stands;person hunger 6 stands;person hunger 5 stands;" + times(3, "person hunger 0")
+                        + ";speech 70;likes 3 1 6;likes 4 2 6", "spite 3 if run>0;sway 1 if hunger>4");
+                int least = 9, most = 0;
+                for (int seed = 1; seed <= 7; seed++) {
+                    x.seed(seed);
+                    int benched = Integer.bitCount(x.trial(n, false));
+                    if (benched < least || benched > most) further[seed]++;
+                    if (seed < 7) least = Math.min(least, benched);
+                    if (seed < 7) most = Math.max(most, benched);
+                }
+                due(x, least, "span", n, 0);
+                due(x, most, "span", n, 1);
+            }
+        }
+        same(further[6] > 0 && further[7] > 0, true, "there are such villages");
         for (int n : new int[] {-1, 61, MOST, LEAST}) {
             refused(() -> of(STARVING), ARGUMENT, "span", n, 0);
             refused(() -> of(STARVING), ARGUMENT, "span", n, 1);
@@ -1806,6 +1915,11 @@ public final class Boundaries {
         due(z, 1, "back");
         due(z, 2, "count", 3);
         due(z, 44, "seed", 1);
+        LastLoaf full = baked(of(STANDS), 61);
+        String rows = state(full);
+        full.weeks(30);
+        due(full, 1, "undo");
+        same(state(full), rows, "a full LOG");
         sentence(61, "ACTS: WEEKS; one STANDS, or does not; LIKES are told; a PARTY is told; FLOUR is brought; WAY is told;");
         Supplier<LastLoaf> make = () -> baked(of("person hunger 9;person hunger 0 stands;person hunger 0 stands;likes 0 1 3" + NO_GRIST + ";flour 9"), 1);
         int[][] acts = {{1, 2}, {0, 1}, {0, 1, 4}, {1, 1}, {5}, {3}, {0, 1}};
@@ -2116,6 +2230,69 @@ public final class Boundaries {
         refused(() -> of(STARVING), PLACE, "ahead", 3, 0, 3);
         refused(() -> of(STARVING), PLACE, "ahead", 3, 61, 0);
         refused(() -> of(STARVING), ARGUMENT, "ahead", 0, 61, 3);
+    }
+
+    /** Each call that only asks, with numbers that can be. */
+    private static final String[] QUESTIONS = {"fault", "person 0 0", "person 0 7", "person 0 8", "person 0 9", "person 0 10", "person 0 11", "person 0 12",
+        "person 0 13", "likes 0 1", "favour 0 1", "grist 3", "winner 0", "winner 1", "winner 2", "winner 3", "winner 4", "winner 5", "rank 0 0", "beats 0 2", "master",
+        "hungry 3 60", "kindest 60", "next 60", "woo 2", "orders", "order 2 0", "rota 5 -1", "rota 5 4", "lasts", "mill 60", "starves 0", "starves 1", "carries 7",
+        "swings 0", "smallest", "bloc 2", "kingmaker", "couples -1", "couples 0", "camps", "table -1", "table 1", "slices 0 999", "ring 0", "rests 2 0", "odds 6 3",
+        "hungriest", "loved", "thick", "bench", "crowd", "never", "alike", "ahead 0 60 0", "ahead 0 60 1", "ahead 0 60 2", "trial 60 0", "trial 60 1", "span 60 0",
+        "span 60 1", "led 0 0", "led 0 1", "log 0 0", "count 0", "count 7", "count 12"};
+
+    private static Object asked(Object x, String question) {
+        String[] words = question.split(" ");
+        int[] args = new int[words.length - 1];
+        for (int i = 0; i < args.length; i++) args[i] = Integer.parseInt(words[i + 1]);
+        return answer(x, words[0], args);
+    }
+
+    private static void questions() {
+        sentence(56, "(draws, too; nothing stays)");
+        byte[] tape = "flour 77".getBytes(StandardCharsets.ISO_8859_1);
+        Supplier<LastLoaf> make = () -> baked(of("person hunger 8 stands;person hunger 7;person hunger 4 stands;person hunger 2 party crust;flour 4;speech 60" + NO_GRIST, "sway 2 if hunger>3"), 2);
+        String untouched = history(ready(make, tape), true);
+        for (String question : QUESTIONS) {
+            LastLoaf x = ready(make, tape);
+            asked(x, question);
+            same(history(x, true), untouched, question + " changed something");
+        }
+        sentence(64, "Nothing is promised beyond the answers and state changes described above");
+        LastLoaf all = ready(make, tape);
+        for (int round = 0; round < 2; round++) {
+            for (String question : QUESTIONS) same(asked(all, question), asked(ready(make, tape), question), question + " behind other questions");
+        }
+        for (int i = QUESTIONS.length - 1; i >= 0; i--) same(asked(all, QUESTIONS[i]), asked(ready(make, tape), QUESTIONS[i]), QUESTIONS[i] + " behind other questions");
+        same(history(all, true), untouched, "all questions");
+        sentence(64, "PEOPLE (at most 6, numbered from 0 on)");
+        String[] villages = {times(6, "person hunger 7 stands"), times(6, "person hunger 3"), times(3, "person hunger 8 stands") + ";" + times(3, "person hunger 4 skin 3"),
+            times(5, "person hunger 8 stands") + ";person hunger 0", times(6, "person hunger 9 stands") + NO_GRIST, times(2, "person hunger 5 party crust stands")};
+        for (String village : villages) {
+            for (int weeks = 0; weeks < 4; weeks++) {
+                LastLoaf x = of(village);
+                Model model = new Model();
+                tellModel(model, village);
+                if (weeks > 0) x.weeks(weeks);
+                if (weeks > 0) model.weeks(weeks);
+                for (int last = 0; last < x.count(0); last += 5) {
+                    for (String question : QUESTIONS) {
+                        String asked = question.replaceFirst("^(\\w+) 0 ", "$1 " + last + " ").replaceFirst("^(\\w+) 0$", "$1 " + last);
+                        same(asked(x, asked), asked(model, asked), asked + " after " + weeks + " weeks of " + village);
+                    }
+                }
+            }
+        }
+    }
+
+    private static void tellModel(Model x, String text) {
+        byte[] b = java.util.Arrays.copyOf(text.getBytes(StandardCharsets.ISO_8859_1), 400);
+        for (int i = 0; i < text.length(); i += 20) {
+            int[] n = new int[5];
+            for (int j = 0; j < 20; j++) n[j / 4] = n[j / 4] << 8 | b[i + j] & 255;
+            x.feed(n[0], n[1], n[2], n[3], n[4]);
+        }
+        x.end(text.length());
+        x.village();
     }
 
     private static void nobody() {
