@@ -44,6 +44,7 @@ public final class AgainstModel {
     private void play() throws Exception {
         if (random.nextInt(20) != 0) village();
         if (random.nextInt(3) != 0) law();
+        if (random.nextInt(25) == 0) far();
         int length = 20 + random.nextInt(60);
         for (int i = 0; i < length && !wrong; i++) {
             int dice = random.nextInt(40);
@@ -56,6 +57,14 @@ public final class AgainstModel {
             if (!wrong && dice < 12) compareState();
         }
         if (!wrong) compareState();
+    }
+
+    /** To where WEEK, FLOUR, HAD, RUN and THE LOG are as great as can be. */
+    private void far() throws Exception {
+        text("week 99" + random.nextInt(10) + ";flour 999;grist winter " + random.nextInt(3), "village");
+        for (int i = random.nextInt(12); i > 0; i--) call("bring", 999);
+        for (int i = 140 + random.nextInt(12); i > 0; i--) call("weeks", 60);
+        compareState();
     }
 
     private void any() throws Exception {

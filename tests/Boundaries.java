@@ -83,6 +83,7 @@ public final class Boundaries {
         numbersRefused();
         peopleRefused();
         firstTold();
+        refusedTapes();
         questions();
         nobody();
         counts();
@@ -2230,6 +2231,36 @@ public final class Boundaries {
         refused(() -> of(STARVING), PLACE, "ahead", 3, 0, 3);
         refused(() -> of(STARVING), PLACE, "ahead", 3, 61, 0);
         refused(() -> of(STARVING), ARGUMENT, "ahead", 0, 61, 3);
+    }
+
+    /** All refusals above are held to this, too; here it is shown once for each call that reads the TAPE, and for one that does not. */
+    private static void refusedTapes() {
+        String told = "a call that throws changes nothing but the TAPE, where it is used up.";
+        String[] readers = {"village", "law", "ballots", "ask", "sure"};
+        int[] promises = {4, 5, 33, 35, 34};
+        for (int i = 0; i < readers.length; i++) {
+            sentence(promises[i], told);
+            LastLoaf x = of(STARVING);
+            String was = state(x);
+            for (int length : new int[] {1, 7, 399, 400}) {
+                byte[] wrong = new byte[length];
+                java.util.Arrays.fill(wrong, (byte) 'x');
+                tell(x, wrong);
+                same(answer(x, readers[i], readers[i].equals("sure") ? new int[] {0} : new int[0]), ARGUMENT, readers[i]);
+                due(x, 0, "end", 1);
+                due(x, 1, "end", 0);
+                due(x, 20, "feed", 0, 0, 0, 0, 0);
+                same(state(x), was, "nothing else");
+            }
+        }
+        sentence(11, told);
+        LastLoaf x = of(STARVING);
+        tell(x, "flour 123");
+        same(answer(x, "weeks", 0), ARGUMENT, "weeks(0)");
+        due(x, 0, "end", 10);
+        due(x, 1, "end", 9);
+        due(x, 2, "village");
+        due(x, 123, "count", 4);
     }
 
     /** Each call that only asks, with numbers that can be. */
