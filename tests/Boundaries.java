@@ -615,6 +615,18 @@ public final class Boundaries {
                 x1 + " and (" + y1 + " or " + z1 + ")", x1 + " or not (" + y1 + " or " + z1 + ")", "not " + x1 + " or not " + y1 + " and not " + z1};
             for (int i = 0; i < texts.length; i++) due(of(ONE + ";" + ONE, "sway 9 if " + texts[i]), hold[i] ? 14 : 5, "favour", 0, 1);
         }
+        // As many as a TAPE of 400 bytes holds
+        for (String join : new String[] {" and ", " or "}) {
+            StringBuilder chain = new StringBuilder("sway 9 if ");
+            String most = join.equals(" and ") ? "0<1" : "1<0", last = join.equals(" and ") ? "1<0" : "0<1";
+            while (chain.length() + join.length() + 6 < 400) chain.append(most).append(join);
+            due(of(ONE + ";" + ONE, chain + most), join.equals(" and ") ? 14 : 5, "favour", 0, 1);
+            due(of(ONE + ";" + ONE, chain + last), join.equals(" and ") ? 5 : 14, "favour", 0, 1);
+        }
+        String deep = "1<0 or 0<1 and (";
+        String nested = deep + deep + deep + deep + deep + deep + "1<0 or 0<1 and voter<1))))))";
+        due(of(ONE + ";" + ONE, "sway 9 if " + nested), 14, "favour", 0, 1);
+        due(of(ONE + ";" + ONE, "sway 9 if " + nested), 5, "favour", 1, 0);
         sentence(9, "(standing or not; itself, too)");
         due(of(ONE + ";" + ONE, "sway 3 if other>0"), 8, "favour", 0, 1);
         due(of(ONE + ";" + ONE, "sway 3 if other>0"), 12, "favour", 1, 1);
