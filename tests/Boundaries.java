@@ -550,6 +550,11 @@ public final class Boundaries {
         while (sum.length() < 392) sum.append("+999");
         sum.append(">999");
         due(rightLaw(sum.toString(), 1), 6, "favour", 1, 0);
+        StringBuilder full = new StringBuilder("sway1if0");
+        while (full.length() < 398) full.append("+0");
+        due(rightLaw(full + "<1", 1), 6, "favour", 1, 0);
+        due(rightLaw(full + ">1", 1), 5, "favour", 1, 0);
+        wrongLaw(full + "+1", 400);
     }
 
     private static void lawMeaning() {
@@ -590,6 +595,8 @@ public final class Boundaries {
         LastLoaf w = of("person hunger 1 skin 8 stands;" + ONE, "sway 1 if skin>7;sway 10 if standing");
         due(w, 16, "favour", 0, 1);
         due(w, 5, "favour", 1, 0);
+        due(baked(of(STARVING, "sway 10 if standing"), 1), 15, "favour", 0, 2);
+        due(baked(of(STARVING, "sway 10 if standing"), 1), 5, "favour", 1, 2);
         sentence(9, "other, hunger, had, run: of the one who STANDS;");
         LastLoaf eaten = baked(of("person hunger 3 skin 1 stands;person hunger 6 skin 2;person hunger 0 skin 3 stands", "spite 9 if had>2"), 4);
         // 0 had it three times, then 2; 0 and 2 are of HUNGER 1 and 0
@@ -981,6 +988,14 @@ public final class Boundaries {
         due(y, 0, "person", 0, 6);
         due(y, 1, "person", 1, 6);
         due(y, 2, "person", 0, 5);
+        LastLoaf gone = baked(of(STANDS + ";" + ONE), 2);
+        gone.stand(0, false);
+        gone.weeks(1);
+        due(gone, 0, "person", 0, 6);
+        due(gone, 2, "person", 0, 5);
+        LastLoaf bare = baked(of(STANDS + ";flour 2" + NO_GRIST), 2);
+        due(bare, 2, "person", 0, 6);
+        due(baked(bare, 1), 0, "person", 0, 6);
         sentence(11, "each other RUNNER (all, if there is no FLOUR): HUNGER is 1 more (9 at most);");
         LastLoaf z = of("person hunger 8 stands;person hunger 9 stands;person hunger 0 stands" + NO_GRIST);
         due(z, 2, "weeks", 1);
@@ -1188,6 +1203,8 @@ public final class Boundaries {
         y.weeks(1);
         int[][] rows = {{7, 1, 1, 0}, {7, 0, 0, 2}};
         for (int ago = 0; ago < 2; ago++) for (int what = 0; what < 4; what++) due(y, rows[ago][what], "log", ago, what);
+        // They had it first ahead of the loaf, by its hunger
+        due(baked(of("person hunger 7;person hunger 4 stands;person hunger 1 stands", "spite 20 if hunger<4"), 1), 3, "log", 0, 3);
         LastLoaf silent = baked(of(STANDS, "abstain"), 1);
         due(silent, 0, "log", 0, 3);
         due(silent, 1, "count", 11);
@@ -1946,6 +1963,14 @@ public final class Boundaries {
             same(state(a).equals(ahead), false, names[i] + " changes something");
             due(a, 1, "undo");
             same(state(a), ahead, "undo() of " + names[i]);
+        }
+        // An act that changes nothing is one, too
+        LastLoaf again = of(STARVING);
+        String[] calls = {"stand", "like", "join", "way"};
+        int[][] told = {{0, 1}, {0, 1, 5}, {0, 2}, {0}};
+        for (int i = 0; i < calls.length; i++) {
+            answer(again, calls[i], told[i]);
+            due(again, i + 1, "count", 12);
         }
         LastLoaf bench = baked(of(STARVING), 1);
         String ahead = state(bench);
